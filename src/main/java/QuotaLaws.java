@@ -268,7 +268,7 @@ public final class QuotaLaws {
         }
         planner.load(now);
         for (int extra = 0; extra <= MOST_MORE; extra++) {
-            planner.left[p] = Math.max(0, now.time[p] + extra - now.brokenByOne(p));
+            planner.grant(p, now.time[p] + extra - now.brokenByOne(p));
             if (planner.canMeet(now.stands)) {
                 return extra;
             }
@@ -431,12 +431,12 @@ public final class QuotaLaws {
         trial.copyFrom(now);
         int came = 0;
         int found = from.faultAs(lane);
-        while (came < n && found == 0) {
-            long at = (long) f + 2 * came;
+        for (int i = 0; i < n && found == 0; i++) {
+            long at = (long) f + 2 * i;
             found = from.faultOfPair(at);
             if (found == 0) {
                 if (trial.breakOnce(from.cellAt(at), from.cellAt(at + 1)) < 0) {
-                    return REFUSED_BASE - came;
+                    return REFUSED_BASE - i;
                 }
                 came++;
             }
@@ -826,12 +826,10 @@ public final class QuotaLaws {
             lines = 0;
             place = 0;
             boolean open = takeToken();
-            while (open && kind != END && lines < TAPE_SIZE) {
-                open = takeLine(to);
-                if (open) {
-                    lines++;
-                    open = takeToken();
-                }
+            // A line has more bytes than one, so no tape holds as many lines as it has places.
+            for (int i = 0; i < TAPE_SIZE && open && kind != END; i++) {
+                open = takeLine(to) && takeToken();
+                lines++;
             }
             return open && (allThere(to) || fail(NOT_THERE, length));
         }
@@ -1066,8 +1064,8 @@ public final class QuotaLaws {
         static final int SIDE = MOST_TIME + 1;
         static final int IMPOSSIBLE = 1000000;
 
-        final int[] left = new int[MOST_PEOPLE];
         private int laws;
+        private final int[] left = new int[MOST_PEOPLE];
         private final int[] need = new int[MOST_LAWS];
         private final int[] needAhead = new int[MOST_LAWS + 1];
         private final int[] room = new int[MOST_PEOPLE * MOST_LAWS];
@@ -1089,6 +1087,11 @@ public final class QuotaLaws {
                     harm[p * MOST_LAWS + l] = from.harm[l] + from.clumsy[p];
                 }
             }
+        }
+
+        /** Only for canMeet(): the table of leastHarm() has no room for more time than the document's most. */
+        void grant(int p, int time) {
+            left[p] = Math.max(0, time);
         }
 
         /** That no part of the set asks for more than all can give to that part is enough: least cut, greatest flow. */

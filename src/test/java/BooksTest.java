@@ -115,6 +115,7 @@ public final class BooksTest {
         }
         due.is("by itself", x.count(1), 0);
         due.is("by itself", x.count(6), 10);
+        due.is("one ONE, one LAW, harm 0", Due.told("law 9 3 0 0;one 5 0 0 0;").wild(1, 60, 0), 3);
         due.is("nobody", Due.told("law 1 1 1 1;").wild(1, 1, 0), STATE);
         due.is("no LAW", Due.told("one 1 1 1 1;").wild(1, 1, 0), STATE);
         due.is("BAD ahead of STATE", new QuotaLaws().wild(1, 0, 0), BAD);

@@ -11,6 +11,7 @@ public final class ChangeTest {
         breakings();
         doneIsFull();
         years();
+        lastYear();
         falls();
         most();
         due.finish();
@@ -132,7 +133,7 @@ public final class ChangeTest {
     }
 
     private static void doneIsFull() {
-        QuotaLaws x = Due.told("law 0 3 9 0;law 0 3 9 0;law 0 1 0 0;one 5 3 0 0;one 5 0 0 0;");
+        QuotaLaws x = Due.told("law 0 3 9 0;law 0 3 9 0;law 0 1 0 0;law 0 1 1 0;one 5 3 0 0;one 5 0 0 0;");
         x.sheet(0, 0, 10);
         for (int i = 0; i < 10; i++) {
             x.lay(0, i, i % 2 == 0 || i < 6 ? 0 : 1);
@@ -143,14 +144,16 @@ public final class ChangeTest {
         }
         due.is("DONE", x.rule(3), 9960);
         due.is("three come", x.read(0, 0, 0, 3), 3);
-        due.is("breaks to 9996 less 0", x.rule(3), 9996);
+        due.is("DONE", x.rule(3), 9996);
         due.is("FULL", x.breaks(0, 1), FULL);
+        due.is("HARM 1 and CLUMSY 3 to 10000", x.breaks(0, 3), FULL);
         due.is("FULL", x.breaks(1, 0), FULL);
         due.is("DONE stays", x.rule(3), 9996);
         due.is("STATE ahead of FULL", x.breaks(0, 0), STATE);
         due.is("to 9999", x.breaks(0, 2), 3);
         due.is("DONE", x.rule(3), 9999);
         due.is("harm 0 at 9999", x.breaks(1, 2), 0);
+        due.is("harm 1 at 9999", x.breaks(1, 3), FULL);
         x.quota(1, 9);
         x.want(1, 1, true);
         due.is("selfish does not think of DONE", x.selfish(2), 27);
@@ -176,6 +179,16 @@ public final class ChangeTest {
         due.is("through a LAPSED law, which lapses no more", x.falls(), 9);
         due.is("year() says the same", x.year(), 9);
         due.is("rule(4)", x.rule(4), 16);
+    }
+
+    // More calls than an object is promised for: within 512 calls the last year can not be met.
+    private static void lastYear() {
+        QuotaLaws x = new QuotaLaws();
+        for (int i = 0; i < 999; i++) {
+            due.is("year " + i, x.year(), 0);
+        }
+        due.is("YEAR 1000", x.year(), FULL);
+        due.is("YEAR", x.rule(2), 999);
     }
 
     private static void falls() {

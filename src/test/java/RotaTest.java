@@ -71,6 +71,7 @@ public final class RotaTest {
         due.is("more(-1)", x.more(-1), BAD);
         QuotaLaws y = Due.told("law 3 3 0 0;law 3 3 0 0;law 3 3 0 0;one 0 0 0 0;");
         due.is("by nine", y.more(0), 9);
+        due.is("by ten: none", Due.told("law 3 3 0 0;law 3 3 0 0;law 3 3 0 0;law 1 1 0 0;one 0 0 0 0;").more(0), NONE);
         y.time(0, 3);
         y.breaks(0, 0);
         y.breaks(0, 0);
@@ -128,6 +129,9 @@ public final class RotaTest {
         x.quota(0, 4);
         x.year();
         due.is("LAPSED", x.kill(0, 0), STATE);
+        QuotaLaws y = Due.told("law 3 2 0 0;one 1 0 0 0;one 1 0 0 0;one 5 0 0 0;");
+        due.is("ONE 2 alone, though 0 and 1 together would do", y.kill(0, 0), 1);
+        due.is("ONE 2 alone, though 0 and 1 together would do", y.kill(0, 1), 4);
         due.is("BAD ahead of STATE", x.kill(0, 2), BAD);
     }
 

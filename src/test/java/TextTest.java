@@ -88,6 +88,15 @@ public final class TextTest {
         faulty("law 1 1 1 1;\n", 1, 12);
         faulty("law -1 1 1 1;", 1, 4);
         faulty("laws 1 1 1 1;", 2, 0);
+        faulty("aaw 1 1 1 1;", 2, 0);
+        faulty("zaw 1 1 1 1;", 2, 0);
+        faulty("lan 1 1 1 1;", 2, 0);
+        faulty("{", 1, 0);
+        faulty("`", 1, 0);
+        faulty("/", 1, 0);
+        faulty(":", 1, 0);
+        faulty("law 1:1 1 1;", 1, 5);
+        faulty("law{1 1 1 1;", 1, 3);
         faulty("la w 1 1 1 1;", 2, 0);
         faulty(";", 2, 0);
         faulty("7", 2, 0);
