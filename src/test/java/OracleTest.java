@@ -5,6 +5,7 @@ public final class OracleTest {
     private static final Due due = new Due();
     private static final int RUNS = 6000;
     private static final int CALLS = 220;
+    private static final int MOST_TABLES = 2000;
 
     private final Random random;
     private final QuotaLaws x = new QuotaLaws();
@@ -24,7 +25,9 @@ public final class OracleTest {
     }
 
     private void play() {
-        tell();
+        for (int i = 0; i < 20 && o.rule(0) * o.rule(1) == 0; i++) {
+            tell();
+        }
         for (int i = 0; i < CALLS && due.allRight(); i++) {
             step();
         }
@@ -127,10 +130,11 @@ public final class OracleTest {
         }
     }
 
-    /** The oracle goes through all tables: only where these are not too many. */
+    /** With few sightings, so that tables fit; the oracle goes through all tables, so only where these are not too many. */
     private void bookCalls() {
-        due.holds("books", x.books() >= 0);
-        if (o.rule(0) * o.rule(1) > 10) {
+        int few = Math.min(up(4), o.count(2));
+        due.is("forget", x.forget(few), o.forget(few));
+        if (x.books() > MOST_TABLES) {
             return;
         }
         due.is("books", x.books(), o.books());
