@@ -918,15 +918,21 @@ public final class QuotaLaws {
         /** Laws and people may be named ahead of their lines, so this is asked behind all lines. */
         private static boolean allThere(Realm to) {
             int every = (1 << to.laws) - 1;
-            boolean there = isPart(to.watched, every);
+            if (!isPart(to.watched, every)) {
+                return false;
+            }
             for (int l = 0; l < to.laws; l++) {
-                there &= to.carries[l] == NONE || to.hasLaw(to.carries[l]);
+                if (to.carries[l] != NONE && !to.hasLaw(to.carries[l])) {
+                    return false;
+                }
             }
             for (int p = 0; p < MOST_PEOPLE; p++) {
-                there &= isPart(to.refused[p] | to.wanted[p], every);
-                there &= to.hasOne(p) || to.wanted[p] == 0;
+                boolean missing = !to.hasOne(p) && to.wanted[p] != 0;
+                if (missing || !isPart(to.refused[p] | to.wanted[p], every)) {
+                    return false;
+                }
             }
-            return there;
+            return true;
         }
 
         private boolean putInto(int[] row, int i) {

@@ -15,10 +15,16 @@ final class Edge {
     private String sentence = "";
 
     Edge() {
+        document = readDocument();
+    }
+
+    /** Null where the document is not at hand: the answers are asked all the same. */
+    private static String readDocument() {
         try {
-            document = Files.readString(DOCUMENT).replaceAll("\\s+", " ");
+            return Files.readString(DOCUMENT).replaceAll("\\s+", " ");
         } catch (IOException e) {
-            throw new IllegalStateException("no document", e);
+            System.out.println(DOCUMENT + " is not here: quotes are not looked for");
+            return null;
         }
     }
 
@@ -32,10 +38,12 @@ final class Edge {
     }
 
     private void open(int number, String from, String to, String quote) {
-        String section = document.substring(document.indexOf(from), document.indexOf(to));
         sentence = (number == TERMS ? "Terms" : "Promise " + number) + ": " + quote;
-        due.holds(sentence + ": stands in the document", section.contains(quote));
         met.add(number);
+        if (document != null) {
+            String section = document.substring(document.indexOf(from), document.indexOf(to));
+            due.holds(sentence + ": stands in the document", section.contains(quote));
+        }
     }
 
     void is(String call, long got, long want) {

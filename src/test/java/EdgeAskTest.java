@@ -65,6 +65,32 @@ public final class EdgeAskTest {
         edge.is("harm 0", w.rota(0), 0);
         edge.is("by ONE 0", w.rota(10), 1);
         edge.is("not by ONE 1", w.rota(11), 0);
+        edge.is("five LAWS, no NEED", Due.told(CAPS.replace("law 9", "law 0")).rota(0), 0);
+        rotaOfThree();
+    }
+
+    /** What one LAW takes of the TIME of each is gone for the next; ONE 2 has bounds of his own; no LAW is broken above NEED. */
+    private static void rotaOfThree() {
+        QuotaLaws x = Due.told("law 2 2 0 0;law 2 2 0 0;one 3 0 0 0;one 5 1 0 0 0;");
+        int[] first = {2, 0, BAD, 1, 1, BAD};
+        QuotaLaws y = Due.told("law 2 2 0 0;law 2 2 0 0;one 5 0 0 0 0 1;one 3 0 0 0;one 5 1 0 0 0;");
+        int[] second = {0, 2, 0, 0, 1, 1};
+        for (int i = 0; i < 6; i++) {
+            edge.is("ONE 0 has TIME for 3: rota(" + (10 + i) + ")", x.rota(10 + i), first[i]);
+            edge.is("ONE 1 has TIME for 3: rota(" + (10 + i) + ")", y.rota(10 + i), second[i]);
+        }
+        edge.is("harm 1", x.rota(0), 1);
+        edge.is("harm 1", y.rota(0), 1);
+        QuotaLaws z = Due.told("law 1 1 0 0;law 2 2 0 0;law 1 1 0 0;one 0 0 0 0;one 1 3 0 0;one 5 0 0 0 2;");
+        int[] third = {0, 0, 1, 0, 0, 2, 0, 1, 0};
+        for (int i = 0; i < 9; i++) {
+            edge.is("ONE 2 REFUSES LAW 2: rota(" + (10 + i) + ")", z.rota(10 + i), third[i]);
+        }
+        QuotaLaws w = Due.told("law 1 2 0 0;law 0 2 0 0;one 5 0 0 0;one 5 0 0 0;one 5 3 0 0;");
+        edge.is("just NEED times, by those of least harm", w.rota(0), 0);
+        edge.is("not by ONE 0", w.rota(10), 0);
+        edge.is("by ONE 1", w.rota(11), 1);
+        edge.is("not by ONE 2", w.rota(12), 0);
     }
 
     private static void more() {
@@ -164,6 +190,9 @@ public final class EdgeAskTest {
         edge.is("TIME for 3 yet", x.kill(0, 1), 1);
         x.breaks(0, 1);
         edge.is("TIME for 2", x.kill(0, 0), 0);
+        QuotaLaws y = Due.told("law 3 2 0 0;one 1 0 0 0;one 1 0 0 0;one 5 0 0 0;");
+        edge.is("1, 1, 2 of 3: one", y.kill(0, 0), 1);
+        edge.is("the last, for without another 3 are left", y.kill(0, 1), 4);
         edge.promise(25, "BAD; STATE: it has LAPSED; NONE: by none.");
         edge.is("NEED 0", x.kill(1, 0), NONE);
         edge.is("NEED 0", x.kill(1, 1), NONE);
@@ -318,6 +347,15 @@ public final class EdgeAskTest {
         edge.is("0 by two", x.books(), 222);
         x.see(1, 4, 0);
         edge.is("and LAW 4 not at all", x.books(), 106);
+        QuotaLaws bound = Due.told("law 0 1 0 0;law 0 3 0 0;law 0 2 0 0;one 5 0 0 0 1;one 0 0 0 0;one 5 0 0 0 2;");
+        bound.see(1, 1, 3);
+        bound.see(1, 2, 2);
+        edge.is("LAW 1 by ONE 2 alone, LAW 2 by ONE 0 alone, LAW 0 by each or not", bound.books(), 4);
+        bound.see(1, 2, 3);
+        edge.is("above his CAP", bound.books(), 0);
+        bound.forget(0);
+        bound.see(1, 1, 4);
+        edge.is("above his CAP", bound.books(), 0);
         QuotaLaws nobody = Due.told(FIVE);
         nobody.see(1, 4, 0);
         edge.is("nobody broke it, and so it is SEEN", nobody.books(), 1);
@@ -360,6 +398,27 @@ public final class EdgeAskTest {
         x.see(1, 3, 0);
         edge.is("LAWS 0 and 4 alone", x.entry(0, 0, 0), 2);
         edge.is("LAWS 0 and 4 alone", x.entry(0, 4, 1), 3);
+        entryOfEach();
+    }
+
+    private static void entryOfEach() {
+        QuotaLaws x = Due.told(CAPS);
+        x.see(1, 4, 1);
+        for (int p = 0; p < 3; p++) {
+            edge.is("1 by all: the least of " + p, x.entry(p, 4, 0), 0);
+            edge.is("1 by all: the most of " + p, x.entry(p, 4, 1), 1);
+            edge.is("another LAW", x.entry(p, 3, 1), 3);
+        }
+        x.forget(0);
+        x.see(1, 4, 8);
+        for (int p = 0; p < 3; p++) {
+            edge.is("8 by all: the least of " + p, x.entry(p, 4, 0), 2);
+            edge.is("8 by all: the most of " + p, x.entry(p, 4, 1), 3);
+            edge.is("no more than 3 is left to him", x.entry(p, 3, 1), 3);
+            x.see(0, p, 4);
+            edge.is("2 at most is left to him", x.entry(p, 3, 1), 2);
+            x.forget(1);
+        }
     }
 
     private static void wildBounds() {
@@ -496,6 +555,31 @@ public final class EdgeAskTest {
         x.text();
         edge.is("gone with a text", x.back(0), STATE);
         edge.is("gone with a text", x.back(1), STATE);
+        backToBooks();
+    }
+
+    /** Of what was SEEN all is kept: of a ONE or a LAW, of which, how often. */
+    private static void backToBooks() {
+        QuotaLaws x = Due.told("law 0 3 0 0;law 0 2 0 0;law 0 1 0 0;one 5 0 0 0;one 4 0 0 0;");
+        int[][] seen = {{0, 0, 1}, {1, 0, 1}, {0, 1, 1}, {0, 0, 2}};
+        long[] books = new long[4];
+        for (int i = 0; i < 4; i++) {
+            x.forget(0);
+            x.see(seen[i][0], seen[i][1], seen[i][2]);
+            books[i] = x.books();
+            x.keep(0);
+            for (int other = 0; other < 4; other++) {
+                x.forget(0);
+                x.see(seen[other][0], seen[other][1], seen[other][2]);
+                x.back(0);
+                edge.is("SEEN " + i + " behind " + other, x.books(), books[i]);
+            }
+        }
+        for (int i = 0; i < 4; i++) {
+            for (int other = 0; other < i; other++) {
+                edge.holds("SEEN " + i + " is told from " + other, books[i] != books[other]);
+            }
+        }
     }
 
     private static void sheet() {

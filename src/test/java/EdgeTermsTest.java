@@ -226,6 +226,12 @@ public final class EdgeTermsTest {
         edge.terms("TOKENS, each as long as may be");
         faulty("lawone 1 1 1 1;", 2, 0);
         faulty("lawlaw 1 1 1 1;", 2, 0);
+        faulty("aaw 1 1 1 1;", 2, 0);
+        faulty("lab 1 1 1 1;", 2, 0);
+        faulty("lawa 1 1 1 1;", 2, 0);
+        faulty("lawz 1 1 1 1;", 2, 0);
+        faulty("law` 1 1 1 1;", 1, 3);
+        faulty("law{ 1 1 1 1;", 1, 3);
         faulty("l aw 1 1 1 1;", 2, 0);
         faulty("la", 2, 0);
         faulty("laws", 2, 0);
