@@ -28,18 +28,23 @@ final class Edge {
         }
     }
 
+    void whatItIs(String quote) {
+        open("What it is", "## What it is", "## The public face", quote);
+    }
+
     void terms(String quote) {
-        open(TERMS, "## Terms", "## Promise 1:", quote);
+        met.add(TERMS);
+        open("Terms", "## Terms", "## Promise 1:", quote);
     }
 
     void promise(int number, String quote) {
         String behind = number == 39 ? "## Not promised" : "## Promise " + (number + 1) + ":";
-        open(number, "## Promise " + number + ":", behind, quote);
+        met.add(number);
+        open("Promise " + number, "## Promise " + number + ":", behind, quote);
     }
 
-    private void open(int number, String from, String to, String quote) {
-        sentence = (number == TERMS ? "Terms" : "Promise " + number) + ": " + quote;
-        met.add(number);
+    private void open(String name, String from, String to, String quote) {
+        sentence = name + ": " + quote;
         if (document != null) {
             String section = document.substring(document.indexOf(from), document.indexOf(to));
             due.holds(sentence + ": stands in the document", section.contains(quote));

@@ -1,4 +1,4 @@
-/** The sentences of "Terms" that name a bound, an empty or a full case, a wrap-around: a method for each. */
+/** The sentences of "What it is" and "Terms" that name a bound, an empty or a full case, a wrap-around: a method for each. */
 public final class EdgeTermsTest {
     private static final Edge edge = new Edge();
     private static final int BAD = QuotaLaws.BAD, STATE = QuotaLaws.STATE, FULL = QuotaLaws.FULL, NONE = QuotaLaws.NONE;
@@ -6,6 +6,7 @@ public final class EdgeTermsTest {
     private static final String FIVE = LAW + LAW + LAW + LAW + LAW, THREE = ONE + ONE + ONE;
 
     public static void main(String[] args) {
+        fiveHundredCalls();
         theFirstThatFits();
         lowestTerms();
         fiveLaws();
@@ -59,6 +60,27 @@ public final class EdgeTermsTest {
         edge.is("text() of " + text, x.text(), -10 - place);
         edge.is("fault() of " + text, x.fault(), fault);
         edge.is("nothing is told by " + text, x.rule(0) + x.rule(1), 0);
+    }
+
+    private static void fiveHundredCalls() {
+        edge.whatItIs("An object is used for at most 512 calls after it has been made; what later calls answer is free.");
+        edge.is("the last call, year()", used511Times().year(), 1);
+        edge.is("the last call, falls()", used511Times().falls(), 1);
+        edge.is("the last call, rota(0)", used511Times().rota(0), 2);
+        edge.is("the last call, breaks(0, 0)", used511Times().breaks(0, 0), 2);
+        edge.is("the last call, books()", used511Times().books(), 2);
+        edge.is("the last call, feed(59)", used511Times().feed(59), 1);
+        edge.is("the last call, rule(2)", used511Times().rule(2), 243);
+    }
+
+    /** 24 bytes, text(), then 243 years at whose ends the law lapses, and is revived. */
+    private static QuotaLaws used511Times() {
+        QuotaLaws x = Due.told(LAW + ONE);
+        for (int year = 0; year < 243; year++) {
+            edge.is("year()", x.year(), 1);
+            edge.is("revive(0)", x.revive(0), 1);
+        }
+        return x;
     }
 
     private static void theFirstThatFits() {

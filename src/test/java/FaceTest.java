@@ -16,6 +16,8 @@ import java.util.regex.Pattern;
 public final class FaceTest {
     private static final Due due = new Due();
     private static final Path SOURCE = Path.of("src/main/java/QuotaLaws.java");
+    private static final Path DOCUMENT = Path.of("../shared/DOC.md");
+    private static final Set<String> LIBRARY = Set.of("Math.max", "Math.min", "Integer.bitCount", "Arrays.fill", "System.arraycopy");
     private static final String FACE = "int feed(int);int end(int);int text();int fault();int rule(int);int law(int,int);"
             + "int one(int,int);int broken(int,int);int quota(int,int);int carry(int,int);int watch(int,boolean);"
             + "int time(int,int);int refuse(int,int,boolean);int want(int,int,boolean);int fund(int,int);int revive(int);"
@@ -25,12 +27,29 @@ public final class FaceTest {
             + "int lay(int,int,int);int read(int,int,int,int);int torn();int count(int)";
 
     public static void main(String[] args) throws Exception {
+        documentsFace();
         face();
         constants();
         language();
         strangeArguments();
         room();
         due.finish();
+    }
+
+    /** That the face which is tested here is the one that the document writes out. */
+    private static void documentsFace() throws Exception {
+        if (!Files.exists(DOCUMENT)) {
+            System.out.println(DOCUMENT + " is not here: the face is not looked for");
+            return;
+        }
+        String block = Files.readString(DOCUMENT).split("```")[1];
+        StringBuilder found = new StringBuilder();
+        Matcher method = Pattern.compile("public (int|long) (\\w+)\\(([^)]*)\\);").matcher(block);
+        while (method.find()) {
+            String types = method.group(3).replaceAll("(int|boolean) \\w+", "$1").replace(" ", "");
+            found.append(found.length() > 0 ? ";" : "").append(method.group(1) + " " + method.group(2) + "(" + types + ")");
+        }
+        due.holds("the document's face is " + found, found.toString().equals(FACE));
     }
 
     private static void face() {
@@ -99,6 +118,10 @@ public final class FaceTest {
         Matcher imports = Pattern.compile("\\bimport ([^;]*);").matcher(code);
         while (imports.find()) {
             due.holds(imports.group(1), Set.of("java.util.Arrays", "java.util.ArrayList", "java.util.List").contains(imports.group(1)));
+        }
+        Matcher library = Pattern.compile("\\b([A-Z][A-Za-z]*\\.[a-z][A-Za-z]*)\\(").matcher(code);
+        while (library.find()) {
+            due.holds(library.group(1), LIBRARY.contains(library.group(1)));
         }
         int classes = code.split("\\bclass\\b").length - 1;
         due.holds("some twelve classes", classes <= 12);
